@@ -650,6 +650,8 @@ public final class BoundaryTest {
         }
     }
 
+    // Promise 7: "-1 also": for a place out of range, whether a code word fits or not.
+
     private static void mendedRefused() {
         for (int bad : allOutOfRange(PLACES_TOO_LARGE)) {
             refusedOn(START, "mended(" + bad + ")", x -> x.mended(bad));
