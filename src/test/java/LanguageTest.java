@@ -30,6 +30,11 @@ public final class LanguageTest {
     private static final Pattern METHOD =
             Pattern.compile("(?ms)^    (?:public|private)[\\w ]* (\\w+)\\([^)]*\\) \\{\n(.*?)^    \\}$");
     private static final Pattern CALL = Pattern.compile("(\\w+)\\(");
+    // Methods are called without a space before the bracket, unlike if, for, while and switch.
+    private static final Pattern CALL_IN_ARGUMENTS = Pattern.compile("\\w\\((?:[^()]|\\([^()]*\\))*\\w\\(");
+    private static final Pattern LOOP_WORD = Pattern.compile("\\b(?:for|while|do)\\b");
+    private static final Pattern COUNTED_LOOP = Pattern.compile(
+            "for \\(int (\\w+) = [\\w -]+; (?:\\1 < [A-Z_]+; \\1\\+\\+|\\1 >= 0; \\1--)\\) \\{");
 
     private static int failures = 0;
 
@@ -37,7 +42,10 @@ public final class LanguageTest {
         String source = Files.readString(SOURCE).replaceAll("(?s)/\\*.*?\\*/", "").replaceAll("//.*", "");
         words(source);
         arrays(source);
-        calls(methodBodies(source));
+        Map<String, String> bodies = methodBodies(source);
+        calls(bodies);
+        bodies.forEach(LanguageTest::callsInArguments);
+        bodies.forEach(LanguageTest::loops);
         fields();
         methods();
         System.out.println(failures == 0 ? "the rules are kept" : failures + " rules are broken");
@@ -64,6 +72,7 @@ public final class LanguageTest {
         rule(1, source.split("\\bclass\\b", -1).length == 2, "more than one class");
         rule(2, !source.contains("\""), "a String");
         rule(6, !source.contains("->") && !source.contains("::"), "a lambda or method reference");
+        rule(7, !source.contains("/") && !source.contains("%"), "a divisor that this test does not look at");
         rule(5, !Pattern.compile("static\\s*\\{").matcher(source).find(), "a static initialiser");
     }
 
@@ -105,6 +114,26 @@ public final class LanguageTest {
         }
         above.remove(name);
         return deepest + 1;
+    }
+
+    private static void callsInArguments(String name, String body) {
+        rule(10, !CALL_IN_ARGUMENTS.matcher(body).find(), name + " has a call in another call's arguments");
+    }
+
+    /**
+     * Every loop counts up to a constant or down to 0, and its counter is set
+     * by its own line alone. The rule allows more; no loop here needs more.
+     */
+    private static void loops(String name, String body) {
+        long words = LOOP_WORD.matcher(body).results().count();
+        rule(8, words == COUNTED_LOOP.matcher(body).results().count(), name + " has a loop of another form");
+        Matcher loops = COUNTED_LOOP.matcher(body);
+        while (loops.find()) {
+            String counter = "\\b" + loops.group(1) + "\\b";
+            String set = counter + " ?(?:[-+*/%&|^]|<<|>>>?)?=(?!=)|" + counter + "(?:\\+\\+|--)|(?:\\+\\+|--)" + counter;
+            long own = COUNTED_LOOP.matcher(body).results().filter(loop -> loop.group(1).equals(loops.group(1))).count();
+            rule(8, Pattern.compile(set).matcher(body).results().count() == 2 * own, name + " sets a loop's counter");
+        }
     }
 
     private static void fields() {
